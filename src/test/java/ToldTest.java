@@ -65,6 +65,10 @@ public final class ToldTest {
                 pass 10 1 = 0
                 about 0 3 = 20
                 about 0 6 = 3
+                cast 0 5 1 = 1
+                # the number 0 is an answer like the others
+                about 1 6 = 0
+                melt 1 0 = 380
                 pass 10 1 = 1
                 about 0 6 = -1
                 about 0 7 = throws.IndexOutOfBoundsException
