@@ -1,9 +1,13 @@
 import java.lang.reflect.InvocationTargetException;
 import java.lang.reflect.Method;
 import java.util.List;
+import java.util.Set;
 
 /** Makes calls that are written as rows of text, and compares their answers with those that are due. */
 final class Calls {
+    private static final Set<String> ONLY_TELL = Set.of(
+            "told", "about", "order", "count", "would", "best", "until", "advise", "mean", "digest");
+
     private static int wrong = 0;
 
     private Calls() {
@@ -45,8 +49,9 @@ final class Calls {
     }
 
     /**
-     * Plays rows like "bowl 100 = 0" on a new object. A call that throws must leave the digest as it was.
-     * A row that starts with # is a comment.
+     * Plays rows like "bowl 100 = 0" on a new object. A call that throws, or that only tells, must leave the
+     * digest as it was. A row that starts with # is a comment. Two calls of digest come with each row, so
+     * some 170 rows are the most before an object has had its 512 calls.
      */
     static void play(String title, String rows) {
         ChocolateMoulds moulds = new ChocolateMoulds();
@@ -60,7 +65,8 @@ final class Calls {
             long before = moulds.digest();
             String got = answer(moulds, sides[0]);
             due(title + ", row " + line + ": " + sides[0].trim(), got, sides[1].trim());
-            if (got.startsWith("throws.") && moulds.digest() != before) {
+            boolean mayChange = !got.startsWith("throws.") && !ONLY_TELL.contains(sides[0].trim().split(" ")[0]);
+            if (moulds.digest() != before && !mayChange) {
                 due(title + ", row " + line + ": " + sides[0].trim(), "changed something", "nothing changed");
             }
         }
